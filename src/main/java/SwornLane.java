@@ -1018,7 +1018,7 @@ public final class SwornLane {
 
         /** Behind the last sign there is 0, which stands nowhere: so a missing sign faults like a wrong one. */
         private int signHere() {
-            return isWithin(place, 0, count - 1) ? signs[place] : 0;
+            return place >= 0 && place < count ? signs[place] : 0;
         }
 
         /** The number of the sign here in a row of signs, which is then read; NONE, and the place stays. */
