@@ -29,17 +29,14 @@ public final class SwornLane {
     private static final int IS_HONEST = 0, IS_LIAR = 1, JUST_SO_MANY_LIE = 2;
 
     private final World now = new World();
+    // Null until one is kept, and made then once for all.
     private final World[] images = new World[IMAGES];
-    private final boolean[] kept = new boolean[IMAGES];
     private final Pad pad = new Pad();
     private final Trial trial = new Trial();
     private final Game game = new Game();
     private final Chance chance = new Chance();
 
     public SwornLane() {
-        for (int k = 0; k < IMAGES; k++) {
-            images[k] = new World();
-        }
     }
 
     // ---- 1 corners, things, people
@@ -329,8 +326,12 @@ public final class SwornLane {
         if (!isWithin(k, 0, IMAGES - 1)) {
             return OUTSIDE;
         }
-        images[k].copyFrom(now);
-        kept[k] = true;
+        World kept = images[k];
+        if (kept == null) {
+            kept = new World();
+            images[k] = kept;
+        }
+        kept.copyFrom(now);
         return 1;
     }
 
@@ -338,10 +339,11 @@ public final class SwornLane {
         if (!isWithin(k, 0, IMAGES - 1)) {
             return OUTSIDE;
         }
-        if (!kept[k]) {
+        World kept = images[k];
+        if (kept == null) {
             return STATE;
         }
-        now.copyFrom(images[k]);
+        now.copyFrom(kept);
         return 1;
     }
 

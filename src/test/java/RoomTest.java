@@ -1,6 +1,6 @@
 import java.lang.management.ManagementFactory;
 
-/** All calls of one run live in one room: an object is small, and calls make none. */
+/** All calls of one run live in one room: an object is small, and calls make none but two images. */
 public final class RoomTest {
     private static final Check CHECK = new Check();
 
@@ -23,7 +23,7 @@ public final class RoomTest {
         System.out.println("an object takes " + (made - start) + " bytes, 500 calls " + (end - made)
             + " (answers sum to " + answers + ")");
         CHECK.so("an object is small", made - start < 10000);
-        CHECK.so("calls make next to nothing", end - made < 1000);
+        CHECK.so("calls make no more than two images", end - made < 2000);
         CHECK.end();
     }
 
